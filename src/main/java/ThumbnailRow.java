@@ -127,21 +127,13 @@ public final class ThumbnailRow {
 
     public char enters(int shot, int character, char edge)
             throws IndexOutOfBoundsException, IllegalArgumentException, UnsupportedOperationException {
-        Shot changed = madeShot(shot);
-        checkCharacter(character);
-        checkEdge(edge);
-        checkInReel(changed);
-        checkInShot(changed, character);
+        Shot changed = shotForEdge(shot, character, edge);
         return changed.changeEdge(changed.cast.entries, character, edge);
     }
 
     public char leaves(int shot, int character, char edge)
             throws IndexOutOfBoundsException, IllegalArgumentException, UnsupportedOperationException {
-        Shot changed = madeShot(shot);
-        checkCharacter(character);
-        checkEdge(edge);
-        checkInReel(changed);
-        checkInShot(changed, character);
+        Shot changed = shotForEdge(shot, character, edge);
         return changed.changeEdge(changed.cast.exits, character, edge);
     }
 
@@ -345,13 +337,13 @@ public final class ThumbnailRow {
 
     public int orders() throws UnsupportedOperationException {
         checkShortReel();
-        reelOrders.read(reel);
-        return reelOrders.countGood();
+        reelOrders.layOut(reel);
+        return reelOrders.allGood();
     }
 
     public int best() throws UnsupportedOperationException {
         checkShortReel();
-        reelOrders.read(reel);
+        reelOrders.layOut(reel);
         return reelOrders.leastWrong();
     }
 
@@ -454,20 +446,22 @@ public final class ThumbnailRow {
         }
     }
 
-    private static void checkEdge(char edge) {
-        if (edge != 'l' && edge != 'r' && edge != NONE) {
-            throw new IllegalArgumentException("no such edge");
-        }
-    }
-
     private static boolean isPosition(char asked) {
         return asked == 'l' || asked == 'c' || asked == 'r';
     }
 
-    private static void checkInShot(Shot asked, int character) {
+    /** The shot of which an edge of this character can be set. */
+    private Shot shotForEdge(int index, int character, char edge) {
+        Shot asked = madeShot(index);
+        checkCharacter(character);
+        if (edge != 'l' && edge != 'r' && edge != NONE) {
+            throw new IllegalArgumentException("no such edge");
+        }
+        checkInReel(asked);
         if (!asked.cast.has(character)) {
             throw new UnsupportedOperationException("the character is not in the shot");
         }
+        return asked;
     }
 
     private void checkCut(int place) {
@@ -862,50 +856,48 @@ public final class ThumbnailRow {
      * in the reel) and the one of them that is last: what is ahead of the last one does not matter further.
      */
     private static final class Orders {
+        /** More than the cuts of any order. */
         private static final int MANY = 1000;
 
         private final boolean[] wrongCuts = new boolean[MOST_ORDERED * MOST_ORDERED];
-        private final int[] answers = new int[(1 << MOST_ORDERED) * MOST_ORDERED];
+        private final int[] goodOnes = new int[(1 << MOST_ORDERED) * MOST_ORDERED];
+        private final int[] leastFaults = new int[(1 << MOST_ORDERED) * MOST_ORDERED];
         private int count;
 
-        void read(ArrayList<Shot> reel) {
+        void layOut(ArrayList<Shot> reel) {
             count = Math.min(reel.size(), MOST_ORDERED);
             for (int i = 0; i < count; i++) {
                 for (int k = 0; k < count; k++) {
                     wrongCuts[cell(i, k)] = faultBetween(reel.get(i), reel.get(k)) != NONE;
                 }
             }
-        }
-
-        int countGood() {
-            int all = (1 << count) - 1;
-            for (int laid = 1; laid <= all; laid++) {
+            for (int laid = 1; laid < 1 << count; laid++) {
                 for (int last = 0; last < count; last++) {
-                    answers[cell(laid, last)] = goodOnes(laid, last);
+                    goodOnes[cell(laid, last)] = goodEndingWith(last, laid);
+                    leastFaults[cell(laid, last)] = leastEndingWith(last, laid);
                 }
             }
+        }
+
+        int allGood() {
+            int all = (1 << count) - 1;
             int sum = 0;
             for (int last = 0; last < count; last++) {
-                sum += answers[cell(all, last)];
+                sum += goodOnes[cell(all, last)];
             }
             return sum;
         }
 
         int leastWrong() {
             int all = (1 << count) - 1;
-            for (int laid = 1; laid <= all; laid++) {
-                for (int last = 0; last < count; last++) {
-                    answers[cell(laid, last)] = leastOf(laid, last);
-                }
-            }
             int least = MANY;
             for (int last = 0; last < count; last++) {
-                least = Math.min(least, answers[cell(all, last)]);
+                least = Math.min(least, leastFaults[cell(all, last)]);
             }
             return least;
         }
 
-        private int goodOnes(int laid, int last) {
+        private int goodEndingWith(int last, int laid) {
             int others = laid & ~(1 << last);
             if (others == laid) {
                 return 0;
@@ -916,13 +908,13 @@ public final class ThumbnailRow {
             int sum = 0;
             for (int i = 0; i < count; i++) {
                 if (!wrongCuts[cell(i, last)]) {
-                    sum += answers[cell(others, i)];
+                    sum += goodOnes[cell(others, i)];
                 }
             }
             return sum;
         }
 
-        private int leastOf(int laid, int last) {
+        private int leastEndingWith(int last, int laid) {
             int others = laid & ~(1 << last);
             if (others == laid) {
                 return MANY;
@@ -933,7 +925,7 @@ public final class ThumbnailRow {
             int least = MANY;
             for (int i = 0; i < count; i++) {
                 int cost = wrongCuts[cell(i, last)] ? 1 : 0;
-                least = Math.min(least, answers[cell(others, i)] + cost);
+                least = Math.min(least, leastFaults[cell(others, i)] + cost);
             }
             return least;
         }
