@@ -64,7 +64,8 @@ final class ModelTest {
         String kinds = kindsOf(call.getName());
         int[] chosen = new int[kinds.length()];
         for (int i = 0; i < chosen.length; i++) {
-            chosen[i] = random.nextInt(wildness) == 0 ? wild(kinds.charAt(i), random) : tame(kinds.charAt(i), random, shots);
+            char kind = kinds.charAt(i);
+            chosen[i] = random.nextInt(wildness) == 0 ? wild(kind, random) : tame(kind, random, shots);
         }
         return chosen;
     }

@@ -71,7 +71,8 @@ final class PlainModel {
             }
             return answer;
         }
-        return call.equals("close") || call.equals("renew") || call.equals("noteIs") ? ofNote(call, a) : ofReel(call, a);
+        boolean takesNote = call.equals("close") || call.equals("renew") || call.equals("noteIs");
+        return takesNote ? ofNote(call, a) : ofReel(call, a);
     }
 
     private static boolean takesShot(String call) {

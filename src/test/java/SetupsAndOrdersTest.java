@@ -1,20 +1,13 @@
-import java.util.NoSuchElementException;
-
 /** Promises 34 to 43: setups and orders. */
 final class SetupsAndOrdersTest {
-    private static final Class<?> NO_INDEX = IndexOutOfBoundsException.class;
-    private static final Class<?> NOT_NOW = UnsupportedOperationException.class;
-    private static final Class<?> NONE = NoSuchElementException.class;
     private static final Due due = new Due();
 
     public static void main(String[] args) {
         dear();
         setups();
         first();
-        days();
         orders();
         ordersAsLaidOut();
-        ordersRefused();
         checksum();
         brokenShare();
         meanLength();
@@ -31,29 +24,18 @@ final class SetupsAndOrdersTest {
         due.is("dear is no change", reel.version(0), 0);
         due.is("dear, dropped", reel.dear(1, true), false);
         due.is("dear, dropped, again", reel.dear(1, false), true);
-        due.refuses("dear of -1", Reels::three, NO_INDEX, r -> r.dear(-1, true));
-        due.refuses("dear of 3", Reels::three, NO_INDEX, r -> r.dear(3, true));
-    }
-
-    private static ThumbnailRow allSetups() {
-        ThumbnailRow reel = new ThumbnailRow();
-        for (char side : "sn0".toCharArray()) {
-            for (int lens = 0; lens < 5; lens++) {
-                reel.shot(side, lens, 1, 0);
-            }
-        }
-        return reel;
     }
 
     private static void setups() {
-        due.is("setups of none", new ThumbnailRow().setups(), 0);
-        due.is("setups of plain ones", Reels.plain(24).setups(), 1);
-        due.is("setups of three", Reels.three().setups(), 2);
-        due.is("setups after a drop", Reels.oneDropped().setups(), 1);
-        ThumbnailRow reel = allSetups();
-        due.is("all setups", reel.setups(), 15);
-        reel.shot('n', 3, 9, 4);
-        due.is("all setups, one twice", reel.setups(), 15);
+        ThumbnailRow reel = Reels.three();
+        due.is("setups of three", reel.setups(), 2);
+        due.is("days of three", reel.days(), 1);
+        reel.camera(2, 's', 3);
+        due.is("setups after a change", reel.setups(), 3);
+        reel.drop(1);
+        due.is("setups after a drop", reel.setups(), 2);
+        reel.shot('s', 3, 9, 0);
+        due.is("setups with one more of one", reel.setups(), 2);
     }
 
     private static void first() {
@@ -72,25 +54,7 @@ final class SetupsAndOrdersTest {
         due.is("first of one", reel.first(), 1);
     }
 
-    private static void days() {
-        due.is("days of none", new ThumbnailRow().days(), 0);
-        due.is("days of one", Reels.plain(1).days(), 1);
-        due.is("days of 20", Reels.plain(20).days(), 1);
-        due.is("days of 21", Reels.plain(21).days(), 2);
-        ThumbnailRow reel = new ThumbnailRow();
-        int[] wanted = {1, 1, 1, 1, 2, 2, 2, 2, 3, 3, 3, 3, 4, 4, 4};
-        for (int i = 0; i < wanted.length; i++) {
-            reel.shot("sn0".charAt(i / 5), i % 5, 240, 0);
-            due.is("days of setups", reel.days(), wanted[i]);
-        }
-    }
-
     private static void orders() {
-        due.is("orders of one", Reels.plain(1).orders(), 1);
-        due.is("best of one", Reels.plain(1).best(), 0);
-        due.is("orders of two", Reels.plain(2).orders(), 2);
-        due.is("orders of six", Reels.plain(6).orders(), 720);
-        due.is("best of six", Reels.plain(6).best(), 0);
         ThumbnailRow reel = Reels.three();
         due.is("orders of three", reel.orders(), 0);
         due.is("best of three", reel.best(), 1);
@@ -163,21 +127,6 @@ final class SetupsAndOrdersTest {
         return reel;
     }
 
-    private static ThumbnailRow sevenLessOne() {
-        ThumbnailRow reel = Reels.plain(7);
-        reel.drop(6);
-        return reel;
-    }
-
-    private static void ordersRefused() {
-        due.refuses("orders of none", Reels::empty, NOT_NOW, ThumbnailRow::orders);
-        due.refuses("orders of seven", () -> Reels.plain(7), NOT_NOW, ThumbnailRow::orders);
-        due.refuses("best of none", Reels::empty, NOT_NOW, ThumbnailRow::best);
-        due.refuses("best of seven", () -> Reels.plain(7), NOT_NOW, ThumbnailRow::best);
-        due.is("orders of seven less one", sevenLessOne().orders(), 720);
-        due.is("best of seven less one", sevenLessOne().best(), 0);
-    }
-
     private static void checksum() {
         ThumbnailRow reel = new ThumbnailRow();
         due.is("checksum of none", reel.checksum(), 7L);
@@ -216,8 +165,6 @@ final class SetupsAndOrdersTest {
         reel.shot('0', 1, 1, 3);
         due.is("brokenShare of a third", reel.brokenShare(), 1.0f / 3.0f);
         due.is("brokenShare of none broken", Reels.pair().brokenShare(), 0.0f);
-        due.refuses("brokenShare of one shot", () -> Reels.plain(1), NONE, ThumbnailRow::brokenShare);
-        due.refuses("brokenShare of no shot", Reels::empty, NONE, ThumbnailRow::brokenShare);
     }
 
     private static void meanLength() {
@@ -227,7 +174,6 @@ final class SetupsAndOrdersTest {
         reel.length(0, 25);
         due.is("meanLength of a third", reel.meanLength(), 85.0 / 3.0);
         due.is("meanLength of one", Reels.plain(1).meanLength(), 10.0);
-        due.refuses("meanLength of none", Reels::empty, NONE, ThumbnailRow::meanLength);
     }
 
     private static void isSound() {
