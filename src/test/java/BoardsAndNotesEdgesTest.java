@@ -38,6 +38,7 @@ final class BoardsAndNotesEdgesTest {
         due.says("Terms: Hands are 0 to 3");
         due.is("hand 0", Reels.three().hand(0, 0), 1);
         due.is("hand 3", Reels.three().hand(0, 3), 1);
+        due.says("Promise 25: Throws IllegalArgumentException if a number is out of range");
         due.refusesEach("hand", Reels::three, Due.BAD, (r, hand) -> r.hand(0, hand), -1, 4, LEAST, MOST);
         due.says("Promise 25: Returns how many boards this hand has");
         ThumbnailRow all = Reels.plain(24);

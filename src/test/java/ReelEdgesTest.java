@@ -82,6 +82,7 @@ final class ReelEdgesTest {
         due.says("Terms: a lens, 0 wide to 4 long");
         due.is("wide", new ThumbnailRow().shot('s', 0, 1, 0), 0);
         due.is("long", new ThumbnailRow().shot('s', 4, 1, 0), 0);
+        due.says("Promise 2: Throws IllegalArgumentException if a number is out of range: the lens");
         due.refusesEach("lens", Reels::three, Due.BAD, (r, lens) -> r.shot('s', lens, 1, 0), -1, 5, LEAST, MOST);
     }
 
@@ -93,12 +94,14 @@ final class ReelEdgesTest {
         ThumbnailRow longest = new ThumbnailRow();
         due.is("longest", longest.shot('s', 0, 240, 0), 0);
         due.is("longest, taken", longest.length(0, 240), 240);
+        due.says("Promise 2: Throws IllegalArgumentException if a number is out of range: the length");
         due.refusesEach("length", Reels::three, Due.BAD, (r, frames) -> r.shot('s', 0, frames, 0),
                 0, -1, 241, LEAST, MOST);
         due.says("Promise 2: the place, from 0 to the number of shots in the reel");
         due.is("first place of three", Reels.three().shot('s', 0, 1, 0), 3);
         due.is("last place of three", Reels.three().shot('s', 0, 1, 3), 3);
         due.is("last place of two", Reels.oneDropped().shot('s', 0, 1, 2), 3);
+        due.says("Promise 2: Throws IllegalArgumentException if a number is out of range: the place");
         due.refusesEach("place of three", Reels::three, Due.BAD, (r, place) -> r.shot('s', 0, 1, place),
                 -1, 4, LEAST, MOST);
         due.refusesEach("place of two", Reels::oneDropped, Due.BAD, (r, place) -> r.shot('s', 0, 1, place), 3);

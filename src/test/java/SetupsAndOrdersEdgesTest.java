@@ -123,10 +123,10 @@ final class SetupsAndOrdersEdgesTest {
         wrong.excuse(2, 'x');
         due.is("none, though excused", wrong.orders(), 0);
         due.is("those of six, one dropped", Reels.droppedOf(7, 3).orders(), 720);
-        due.says("Promise 38: Throws UnsupportedOperationException"
-                + " if there are more than 6 shots in the reel, or none");
+        due.says("Promise 38: Throws UnsupportedOperationException if there are more than 6 shots in the reel");
         due.refuses("of 7", () -> Reels.plain(7), Due.NOT_NOW, ThumbnailRow::orders);
         due.refuses("of 24", () -> Reels.plain(24), Due.NOT_NOW, ThumbnailRow::orders);
+        due.says("Promise 38: Throws UnsupportedOperationException if there are none");
         due.refuses("of none", Reels::empty, Due.NOT_NOW, ThumbnailRow::orders);
         due.refuses("of none, one dropped", () -> Reels.droppedOf(1, 0), Due.NOT_NOW, ThumbnailRow::orders);
     }
@@ -154,10 +154,10 @@ final class SetupsAndOrdersEdgesTest {
         excused.excuse(1, 'x');
         due.is("of two, excused", excused.best(), 1);
         due.is("of six, one dropped", Reels.droppedOf(7, 3).best(), 0);
-        due.says("Promise 39: Throws UnsupportedOperationException"
-                + " if there are more than 6 shots in the reel, or none");
+        due.says("Promise 39: Throws UnsupportedOperationException if there are more than 6 shots in the reel");
         due.refuses("of 7", () -> Reels.plain(7), Due.NOT_NOW, ThumbnailRow::best);
         due.refuses("of 24", () -> Reels.plain(24), Due.NOT_NOW, ThumbnailRow::best);
+        due.says("Promise 39: Throws UnsupportedOperationException if there are none");
         due.refuses("of none", Reels::empty, Due.NOT_NOW, ThumbnailRow::best);
         due.refuses("of none, one dropped", () -> Reels.droppedOf(1, 0), Due.NOT_NOW, ThumbnailRow::best);
     }
