@@ -174,7 +174,7 @@ public final class ThumbnailRow {
         boolean before = isLocked;
         if (!isLocked) {
             for (int i = 0; i < reel.size(); i++) {
-                reel.get(i).nameNumber = i + 1;
+                reel.get(i).nameNumber = nameNumberAt(i);
             }
             isLocked = true;
         }
@@ -193,9 +193,8 @@ public final class ThumbnailRow {
 
     public int named(int number, char letter) throws NoSuchElementException {
         for (int i = 0; i < reel.size(); i++) {
-            Shot candidate = reel.get(i);
-            if (nameNumberOf(candidate) == number && candidate.nameLetter == letter) {
-                return candidate.index;
+            if (nameNumberAt(i) == number && reel.get(i).nameLetter == letter) {
+                return reel.get(i).index;
             }
         }
         throw new NoSuchElementException("no such name");
@@ -512,7 +511,11 @@ public final class ThumbnailRow {
             return asked.nameNumber;
         }
         int found = placeOf(asked);
-        return found == NO_NUMBER ? NO_NUMBER : found + 1;
+        return found == NO_NUMBER ? NO_NUMBER : nameNumberAt(found);
+    }
+
+    private int nameNumberAt(int place) {
+        return isLocked ? reel.get(place).nameNumber : place + 1;
     }
 
     /** The number for a new name behind the shot ahead of this place, 0 for the first place. */
@@ -652,9 +655,7 @@ public final class ThumbnailRow {
     private boolean areNamesUnlike() {
         for (int i = 0; i < reel.size(); i++) {
             for (int k = 0; k < i; k++) {
-                Shot one = reel.get(i);
-                Shot other = reel.get(k);
-                if (nameNumberOf(one) == nameNumberOf(other) && one.nameLetter == other.nameLetter) {
+                if (nameNumberAt(i) == nameNumberAt(k) && reel.get(i).nameLetter == reel.get(k).nameLetter) {
                     return false;
                 }
             }

@@ -1,7 +1,14 @@
-/** The example of the document, call by call. */
+/** The examples of the document and of README.md, call by call. */
 final class ExampleTest {
+    private static final Due due = new Due();
+
     public static void main(String[] args) {
-        Due due = new Due();
+        ofTheDocument();
+        ofTheReadme();
+        due.end();
+    }
+
+    private static void ofTheDocument() {
         ThumbnailRow x = new ThumbnailRow();
         due.is("shot 0", x.shot('s', 1, 24, 0), 0);
         due.is("shot 1", x.shot('n', 1, 48, 1), 1);
@@ -50,6 +57,28 @@ final class ExampleTest {
         due.is("brokenShare", x.brokenShare(), 1.0f);
         due.is("meanLength", x.meanLength(), 23.333333333333332);
         due.is("isSound", x.isSound(), true);
-        due.end();
+    }
+
+    private static void ofTheReadme() {
+        ThumbnailRow reel = new ThumbnailRow();
+        due.is("first", reel.shot('s', 1, 24, 0), 0);
+        due.is("second", reel.shot('n', 1, 48, 1), 1);
+        due.is("stand", reel.stand(0, 0, 'l', 'r'), 1);
+        due.is("begin", reel.time(1), 24);
+        due.is("fault", reel.wrong(1), 'x');
+        due.is("excuse", reel.excuse(1, 'x'), '-');
+        due.is("isBroken", reel.isBroken(1), false);
+        due.is("lock", reel.lock(), false);
+        due.is("between", reel.shot('0', 2, 12, 1), 2);
+        due.is("number", reel.number(2), 1);
+        due.is("letter", reel.letter(2), 'A');
+        due.is("note", reel.note(0), 0);
+        due.is("hand", reel.hand(0, 2), 1);
+        due.is("isTaken", reel.bring(0, 30), true);
+        due.is("how", reel.noteIs(0), 's');
+        due.is("renew", reel.renew(0), 2);
+        due.is("close", reel.close(0, true), true);
+        due.is("days", reel.days(), 1);
+        due.is("good", reel.orders(), 2);
     }
 }
